@@ -1397,7 +1397,7 @@ public final class ScribeBlocks {
         }
 
         /** In how many ways SIGNS go on to a COVER; kept until forgetCovers(). */
-        int coversBehind(int reading, int sum, int depth) {
+        private int coversBehind(int reading, int sum, int depth) {
             if (reading <= 0 || reading >= MASKS || sum < 0 || sum >= SUMS || depth > SUMS) {
                 return 0;
             }
