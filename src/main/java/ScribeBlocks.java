@@ -1240,14 +1240,15 @@ public final class ScribeBlocks {
     /**
      * Tells which rows are SPELLINGS of one TERM, by the values of one list.
      *
-     * A row may be a COVER in several ways, so all ways go on together: reading is a set, two bits
-     * for each number of ECHOES so far: 1, the ROW is covered up to some place; 2, likewise, and an
-     * ECHO may come next. The place is the SOUNDS of all SIGNS so far less the ECHOES.
+     * A row may be a COVER in several ways, so all ways go on together: a reading is the set of how
+     * many ECHOES there may be so far, bit by bit, and MAY_ECHO if one may come next. The ROW is
+     * covered up to the SOUNDS of all SIGNS so far (the sum) less the ECHOES.
      */
     private static final class Speller {
         static final int MOST = 100000;
         static final int START = 1;
-        private static final int MASKS = 256;
+        private static final int MAY_ECHO = 16;
+        private static final int READINGS = 32;
         /** SOUNDS of a ROW with its ECHOES: 0 .. 11. */
         private static final int SUMS = 12;
         private static final int UNCOUNTED = -1;
@@ -1259,7 +1260,7 @@ public final class ScribeBlocks {
         private long kind;
         int row;
         int size;
-        private final int[] coverCounts = new int[SUMS * MASKS];
+        private final int[] coverCounts = new int[SUMS * READINGS];
 
         Speller(Terms terms, SignList list) {
             this.terms = terms;
@@ -1306,25 +1307,23 @@ public final class ScribeBlocks {
 
         int step(int reading, int sum, int s) {
             int next = 0;
-            int covered = signs.soundCounts[s] > 1 ? 2 : 1;
             for (int e = 0; e <= mostEchoes; e++) {
-                int here = reading >>> (2 * e) & 3;
-                if (here == 0) {
+                if ((reading >>> e & 1) == 0) {
                     continue;
                 }
                 if (covers(s, sum - e)) {
-                    next |= covered << (2 * e);
+                    next |= 1 << e;
                 }
-                if (here > 1 && e < mostEchoes && echoes(s, sum - e)) {
-                    next |= 1 << (2 * e + 2);
+                if (reading >= MAY_ECHO && e < mostEchoes && echoes(s, sum - e)) {
+                    next |= 2 << e;
                 }
             }
-            return next;
+            return next != 0 && signs.soundCounts[s] > 1 ? next | MAY_ECHO : next;
         }
 
         boolean isCover(int reading, int sum) {
             int e = sum - size;
-            return e >= 0 && e <= mostEchoes && (reading >>> (2 * e) & 3) != 0;
+            return e >= 0 && e <= mostEchoes && (reading >>> e & 1) == 1;
         }
 
         // ---- rows that are given
@@ -1398,10 +1397,10 @@ public final class ScribeBlocks {
 
         /** In how many ways SIGNS go on to a COVER; kept until forgetCovers(). */
         private int coversBehind(int reading, int sum, int depth) {
-            if (reading <= 0 || reading >= MASKS || sum < 0 || sum >= SUMS || depth > SUMS) {
+            if (reading <= 0 || reading >= READINGS || sum < 0 || sum >= SUMS || depth > SUMS) {
                 return 0;
             }
-            int key = sum * MASKS + reading;
+            int key = sum * READINGS + reading;
             if (coverCounts[key] != UNCOUNTED) {
                 return coverCounts[key];
             }
@@ -1695,19 +1694,16 @@ public final class ScribeBlocks {
 
         private void tryIdeas() {
             for (int s = 0; s < list.size; s++) {
-                if (speller.isIdea(s)) {
-                    putTrial(0, s);
-                    tryBody(1);
-                    tryTails();
+                if (!speller.isIdea(s)) {
+                    continue;
                 }
-            }
-        }
-
-        private void tryTails() {
-            for (int s = 0; s < list.size; s++) {
-                if (speller.isTail(s)) {
-                    putTrial(1, s);
-                    tryBody(2);
+                putTrial(0, s);
+                tryBody(1);
+                for (int tail = 0; tail < list.size; tail++) {
+                    if (speller.isTail(tail)) {
+                        putTrial(1, tail);
+                        tryBody(2);
+                    }
                 }
             }
         }
