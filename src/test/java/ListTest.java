@@ -25,7 +25,10 @@ public final class ListTest {
         for (int what = 0; what < 8; what++) {
             H.due("count(" + what + ")", x.count(what), 0);
         }
-        H.due("rule(0)", x.rule(0), 0);
+        int[] untold = {0, 1, 24, 50, 1};
+        for (int what = 0; what < untold.length; what++) {
+            H.due("rule(" + what + ")", x.rule(what), untold[what]);
+        }
         H.due("fault(0)", x.fault(0), 0);
         H.due("fault(1)", x.fault(1), -1);
         H.due("ways", x.ways(), -4);
