@@ -39,7 +39,7 @@ public final class ScribeBlocks {
         list = new SignList();
         spare = new SignList();
         text = new BlockText(list);
-        laid = new Blocks(list);
+        laid = new Blocks(list, text);
         terms = new Terms();
         speller = new Speller(terms, list);
         grouper = new Grouper(list);
@@ -147,7 +147,7 @@ public final class ScribeBlocks {
         if (!right) {
             return NONE;
         }
-        laid.layOut(text);
+        laid.layOut();
         return laid.size;
     }
 
@@ -998,6 +998,7 @@ public final class ScribeBlocks {
     /** BLOCKS as told: the SIGNS with their PLACES of NATURAL size. */
     private static final class Blocks {
         private final SignList list;
+        private final BlockText text;
         int size;
         final int[] sizes = new int[BlockText.MOST_BLOCKS];
         final int[] signsIn = new int[BlockText.MOST_BLOCKS];
@@ -1011,11 +1012,11 @@ public final class ScribeBlocks {
         private final int[] partFirst = new int[BlockText.MOST_SIGNS];
         private final int[] partSizes = new int[BlockText.MOST_SIGNS];
         private int parts;
-        private BlockText text;
         private int cursor;
 
-        Blocks(SignList list) {
+        Blocks(SignList list, BlockText text) {
             this.list = list;
+            this.text = text;
         }
 
         void forget() {
@@ -1023,12 +1024,11 @@ public final class ScribeBlocks {
             signCount = 0;
         }
 
-        void layOut(BlockText told) {
-            text = told;
+        void layOut() {
             forget();
             parts = 0;
             cursor = 0;
-            while (cursor < told.used && size < BlockText.MOST_BLOCKS) {
+            while (cursor < text.used && size < BlockText.MOST_BLOCKS) {
                 int first = signCount;
                 sizes[size] = layBeside(0);
                 signsIn[size] = signCount - first;
