@@ -426,7 +426,8 @@ final class BlockEdges {
         e.dueAll("no others", -9, x.block(1, 0), x.box(1, 0));
 
         // told again, or behind others: laid out as on a new object
-        String[] drafts = {"a:b*a-b", "b*b*a:a:a", "(a:b):a&b-b&a", "a:b*a-b"};
+        String[] drafts = {"a:b*a-b", "b*b*a:a:a", "(a:b):a&b-b&a", "a:b*a-b", "b*a*b", "b*a", "b", "a:b:a", "a:b", "a",
+            "a&b", "a"};
         for (int i = 0; i < drafts.length; i++) {
             x = e.made("sign a 5 9; sign b 11 3; gap 2;");
             for (int j = 0; j <= i; j++) {
@@ -472,9 +473,6 @@ final class BlockEdges {
         for (int far : Edges.FAR) {
             e.dueAll("far " + far, -9, x.block(far, 0), x.block(0, far), x.block(far, far));
         }
-        for (int far : Edges.BEYOND) {
-            e.dueAll("far " + far, -9, x.block(far, 0), x.block(0, far), x.block(far, far));
-        }
         x = e.blocksRight(Edges.times("a", 12, "-"), 12);
         e.due("the last", x.block(11, 0), 5);
         e.due("behind it", x.block(12, 0), -9);
@@ -498,9 +496,6 @@ final class BlockEdges {
         e.dueAll("no what", -9, x.box(0, 6), x.box(0, 7), x.box(0, 10));
         e.dueAll("no SIGN", -9, x.box(6, 0), x.box(7, 1), x.box(23, 0), x.box(24, 0), x.box(25, 0));
         for (int far : Edges.FAR) {
-            e.dueAll("far " + far, -9, x.box(far, 0), x.box(0, far), x.box(far, far));
-        }
-        for (int far : Edges.BEYOND) {
             e.dueAll("far " + far, -9, x.box(far, 0), x.box(0, far), x.box(far, far));
         }
         x = e.blocksRight(Edges.times("a", 24, ":"), 1);

@@ -14,6 +14,11 @@ import java.util.regex.Pattern;
  */
 final class Edges {
     private static final Path DOC = Path.of("../shared/DOC.md");
+    /** The promises that the terms are for. */
+    private static final Map<String, String> PROMISES = Map.of("terms I", " (promises 2 to 9, 13, 18, 33)",
+            "terms II", " (promises 9 to 12)", "terms III", " (promises 13 to 17, 20 to 24)",
+            "terms IV", " (promises 25 to 31)", "terms V", " (promises 21, 32 to 34)",
+            "what it is", " (all promises)", "the constants", " (all promises)");
 
     private final Harness h = new Harness();
     private final Map<String, String> sections = new TreeMap<>();
@@ -53,7 +58,7 @@ final class Edges {
 
     /** What is asked next would be answered otherwise if these words of the document were broken. */
     void says(String section, String words) {
-        h.part(section + ", '" + words + "'");
+        h.part(section + PROMISES.getOrDefault(section, "") + ", '" + words + "'");
         if (sections.isEmpty()) {
             return;
         }
@@ -100,8 +105,9 @@ final class Edges {
 
     // ---- objects to ask
 
-    static final int[] FAR = {Integer.MIN_VALUE, Integer.MIN_VALUE + 9, Integer.MIN_VALUE + 10, -1000, -11, -10, -1};
-    static final int[] BEYOND = {1000, 65536, Integer.MAX_VALUE - 10, Integer.MAX_VALUE};
+    /** Numbers that are below or beyond all bounds; some of them wrap around when ten is taken off. */
+    static final int[] FAR = {Integer.MIN_VALUE, Integer.MIN_VALUE + 9, Integer.MIN_VALUE + 10, -1000, -11, -10, -1,
+        1000, 65536, Integer.MAX_VALUE - 10, Integer.MAX_VALUE};
 
     /** A new object with THE LIST and TERMS; a text that is refused is a wrong test. */
     ScribeBlocks made(String list, String... terms) {

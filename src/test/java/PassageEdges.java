@@ -285,9 +285,6 @@ final class PassageEdges {
         for (int far : Edges.FAR) {
             e.due("say(" + far + ")", x.say(far), -2);
         }
-        for (int far : Edges.BEYOND) {
-            e.due("say(" + far + ")", x.say(far), -2);
-        }
         e.due("TERMS of it", x.count(5), 3);
         for (int many = 4; many <= 12; many++) {
             e.due("say", x.say(0), many);
@@ -328,7 +325,7 @@ final class PassageEdges {
         dueFilled(x, 2, 1, 1, 1);
         dueFilled(x, 3, 1, 1);
         // whatever was asked ahead of it
-        x = said(TENS, "p abab,q c,r bb", 0);
+        x = said(TENS, "p abab,q c,r bc", 0);
         for (int t = 0; t < 3; t++) {
             x.spellings(t);
             x.best(t);
@@ -343,9 +340,6 @@ final class PassageEdges {
         ScribeBlocks x = said(TENS, "p ab", 0);
         e.dueAll("0, 145", -2, x.fill(0), x.fill(145), x.fill(146));
         for (int far : Edges.FAR) {
-            e.due("fill(" + far + ")", x.fill(far), -2);
-        }
-        for (int far : Edges.BEYOND) {
             e.due("fill(" + far + ")", x.fill(far), -2);
         }
         e.dueAll("1, 144", -1, x.fill(144), x.fill(3));
@@ -431,9 +425,6 @@ final class PassageEdges {
         e.dueAll("no what", -1, x.filled(0, 2), x.filled(0, 3), x.filled(0, 9), x.filled(1, 9));
         e.dueAll("no SIGN", -1, x.filled(0, 12), x.filled(1, 11), x.filled(1, 19), x.filled(0, 22), x.filled(0, 42));
         for (int far : Edges.FAR) {
-            e.dueAll("far " + far, -1, x.filled(far, 0), x.filled(0, far), x.filled(far, far));
-        }
-        for (int far : Edges.BEYOND) {
             e.dueAll("far " + far, -1, x.filled(far, 0), x.filled(0, far), x.filled(far, far));
         }
         Harness.term(x, "r b");

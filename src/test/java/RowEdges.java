@@ -319,9 +319,6 @@ final class RowEdges {
         for (int far : Edges.FAR) {
             e.due("written(" + far + ")", x.written(far), -1);
         }
-        for (int far : Edges.BEYOND) {
-            e.due("written(" + far + ")", x.written(far), -1);
-        }
         Harness.write(x, Edges.times("b", 24, " "));
         e.due("the 24th", x.written(23), 1);
         e.due("no 25th", x.written(24), -1);
@@ -469,9 +466,6 @@ final class RowEdges {
         for (int far : Edges.FAR) {
             e.dueAll("far " + far, -1, x.readTerm(far, 0), x.readTerm(0, far), x.readTerm(far, far));
         }
-        for (int far : Edges.BEYOND) {
-            e.dueAll("far " + far, -1, x.readTerm(far, 0), x.readTerm(0, far), x.readTerm(far, far));
-        }
         // none of these writes a row or brings a LIST
         Harness.write(x, "oh");
         Harness.write(x, "");
@@ -525,9 +519,6 @@ final class RowEdges {
         for (int far : Edges.FAR) {
             e.due("spells(" + far + ")", x.spells(far), -2);
         }
-        for (int far : Edges.BEYOND) {
-            e.due("spells(" + far + ")", x.spells(far), -2);
-        }
         ScribeBlocks y = e.made(ABC, "p a");
         e.due("none is WRITTEN", y.spells(0), -4);
         e.due("RANGE ahead of STATE", y.spells(1), -2);
@@ -574,9 +565,6 @@ final class RowEdges {
         e.dueAll("no BLOCK", -1, x.grouped(2, 0), x.grouped(2, 1), x.grouped(3, 0), x.grouped(23, 0), x.grouped(24, 0));
         e.dueAll("no what", -1, x.grouped(0, 2), x.grouped(0, 3), x.grouped(1, 10), x.grouped(1, 11));
         for (int far : Edges.FAR) {
-            e.dueAll("far " + far, -1, x.grouped(far, 0), x.grouped(0, far), x.grouped(far, far));
-        }
-        for (int far : Edges.BEYOND) {
             e.dueAll("far " + far, -1, x.grouped(far, 0), x.grouped(0, far), x.grouped(far, far));
         }
         Harness.write(x, "oh");

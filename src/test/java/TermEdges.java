@@ -271,6 +271,10 @@ final class TermEdges {
         dueBest("sign i 1 5 means t; sign a 2 2 sounds a;", "t a", 4, 1);
         dueBest("sign a 2 2 sounds a; sign k 3 3 kind k; sign l 2 4 kind k;", "t a k", 12, 0, 2);
         dueBest("sign l 2 4 kind k; sign k 3 3 kind k; sign a 2 2 sounds a;", "t a k", 12, 2, 0);
+        // a SIGN that goes beyond the ROW, by the first SOUND of all, covers nothing
+        dueBest("sign b 3 3 sounds b; sign x 1 1 sounds ba; sign y 1 1 sounds baa; sign k 3 3 kind k;", "t b k", 18, 0, 3);
+        dueBest("sign b 3 3 sounds b; sign x 1 1 sounds ba; sign y 1 1 sounds baa;", "t b", 9, 0);
+        dueBest("sign x 1 1 sounds ba; sign y 1 1 sounds baa; sign k 3 3 kind k;", "t b k", -1);
         // never with a TAIL or an ECHO
         dueBest("sign i 9 9 means t; sign b 1 1 sounds b;", "t ab", 81, 0);
         dueBest("sign x 9 9 sounds ab; sign b 1 1 sounds b; echo 3;", "t abab", 162, 0, 0);
@@ -359,9 +363,6 @@ final class TermEdges {
         for (int far : Edges.FAR) {
             e.dueAll("far " + far, -9, x.about(far, 0), x.about(0, far), x.about(far, far));
         }
-        for (int far : Edges.BEYOND) {
-            e.dueAll("far " + far, -9, x.about(far, 0), x.about(0, far), x.about(far, far));
-        }
     }
 
     private static String alike(int many, String sounds) {
@@ -414,9 +415,6 @@ final class TermEdges {
         for (int far : Edges.FAR) {
             e.due("spellings(" + far + ")", x.spellings(far), -2);
         }
-        for (int far : Edges.BEYOND) {
-            e.due("spellings(" + far + ")", x.spellings(far), -2);
-        }
         e.due("the one there is", x.spellings(0), 1);
     }
 
@@ -427,9 +425,6 @@ final class TermEdges {
         e.dueAll("none", -1, x.best(1), x.best(2), x.best(3));
         e.dueAll("no TERM", -2, x.best(4), x.best(5), x.best(40));
         for (int far : Edges.FAR) {
-            e.due("best(" + far + ")", x.best(far), -2);
-        }
-        for (int far : Edges.BEYOND) {
             e.due("best(" + far + ")", x.best(far), -2);
         }
         Harness.list(x, "sign b 1 1 sounds b;");
@@ -451,9 +446,6 @@ final class TermEdges {
         e.dueAll("of none", -1, x.bestSign(1, 0), x.bestSign(1, 1));
         e.dueAll("no TERM", -1, x.bestSign(3, 0), x.bestSign(40, 0));
         for (int far : Edges.FAR) {
-            e.dueAll("far " + far, -1, x.bestSign(0, far), x.bestSign(far, 0), x.bestSign(1, far));
-        }
-        for (int far : Edges.BEYOND) {
             e.dueAll("far " + far, -1, x.bestSign(0, far), x.bestSign(far, 0), x.bestSign(1, far));
         }
     }

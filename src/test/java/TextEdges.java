@@ -465,6 +465,13 @@ final class TextEdges {
         e.listFault("sign a 1 1 kind abcdefghijklm;", 1, 16);
         e.listFault("sign a 1 1 abcdefghijklm;", 1, 11);
         e.blocksFault("aaaaaaaaaaaaa", 1, 0);
+        // where a mark is wanted that stood ahead already
+        e.listFault("gap 1; echo 1 abcdefghijklm", 1, 14);
+        e.listFault("gap 1; echo 1 12345", 1, 14);
+        e.listFault("gap 1; echo 1 ? sign", 1, 14);
+        e.blocksFault("a*b aaaaaaaaaaaaa c", 1, 4);
+        e.blocksFault("a*b 12345 c", 1, 4);
+        e.blocksFault("a-b 12345 c", 1, 4);
         e.blocksFault("a&aaaaaaaaaaaaa", 1, 2);
         e.listFault("sign a 00001 1;", 1, 7);
         e.listFault("sign a 1 00001;", 1, 9);
@@ -661,9 +668,6 @@ final class TextEdges {
         for (int n : Edges.FAR) {
             e.due("end(" + n + ")", x.end(n), -1);
         }
-        for (int n : Edges.BEYOND) {
-            e.due("end(" + n + ")", x.end(n), -1);
-        }
         e.due("800", x.end(800), -1);
         e.due("bytes stay", x.count(7), 6);
         e.due("cut", x.end(3), 3);
@@ -699,6 +703,11 @@ final class TextEdges {
             y.say(1);
             e.due("fills without " + value, y.fills(), 0);
         }
+        ScribeBlocks z = e.made("sign i 9 9 means t; sign b 9 9 sounds b; square 9; least 100;", "t ab");
+        z.say(0);
+        e.due("an IDEA, or with a TAIL", z.fills(), 2);
+        Harness.list(z, "sign i 9 9 means t; square 9; least 100;");
+        e.due("without the TAIL", z.fills(), 1);
         e.due("an empty one", Harness.list(x, ""), 0);
         e.due("no SIGNS", x.rule(0), 0);
         e.due("again, without bytes", x.list(), 0);
@@ -816,9 +825,6 @@ final class TextEdges {
         for (int what : Edges.FAR) {
             e.due("fault(" + what + ")", x.fault(what), -1);
         }
-        for (int what : Edges.BEYOND) {
-            e.due("fault(" + what + ")", x.fault(what), -1);
-        }
     }
 
     private void rule() {
@@ -831,9 +837,6 @@ final class TextEdges {
         e.says("promise 6", "-9 when there is none such.");
         e.dueAll("5, 6, 10", -9, x.rule(5), x.rule(6), x.rule(10));
         for (int what : Edges.FAR) {
-            e.due("rule(" + what + ")", x.rule(what), -9);
-        }
-        for (int what : Edges.BEYOND) {
             e.due("rule(" + what + ")", x.rule(what), -9);
         }
     }
@@ -858,9 +861,6 @@ final class TextEdges {
         e.dueAll("no what", -9, x.sign(1, 4), x.sign(1, 9), x.sign(1, 18), x.sign(1, 42));
         e.dueAll("no SIGN", -9, x.sign(4, 0), x.sign(5, 0), x.sign(39, 0), x.sign(40, 0), x.sign(4, 10));
         for (int far : Edges.FAR) {
-            e.dueAll("far " + far, -9, x.sign(far, 0), x.sign(1, far), x.sign(far, far));
-        }
-        for (int far : Edges.BEYOND) {
             e.dueAll("far " + far, -9, x.sign(far, 0), x.sign(1, far), x.sign(far, far));
         }
         // SIGNS of an earlier LIST are gone, and so are their values

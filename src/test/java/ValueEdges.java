@@ -260,9 +260,6 @@ final class ValueEdges {
         for (int far : Edges.FAR) {
             e.dueAll("what " + far, -1, x.valueOn(0, 0, 0, far), x.valueOn(3, 999, 999, far));
         }
-        for (int far : Edges.BEYOND) {
-            e.dueAll("what " + far, -1, x.valueOn(0, 0, 0, far), x.valueOn(3, 999, 999, far));
-        }
     }
 
     private void valueOnRefused() {
@@ -301,9 +298,6 @@ final class ValueEdges {
         e.says("promise 35", "NONE for others.");
         e.dueAll("8, 9, 10", -1, x.count(8), x.count(9), x.count(10));
         for (int far : Edges.FAR) {
-            e.due("count(" + far + ")", x.count(far), -1);
-        }
-        for (int far : Edges.BEYOND) {
             e.due("count(" + far + ")", x.count(far), -1);
         }
         full();
