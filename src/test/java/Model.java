@@ -516,6 +516,10 @@ final class Model {
             to.add(new ArrayList<>(way));
             return;
         }
+        // a place from which no WAY goes on would be tried again and again
+        if (ways(row.subList(at, row.size()), all).signum() == 0) {
+            return;
+        }
         for (int t = 0; t < all.size(); t++) {
             for (int end = at + 1; end <= row.size(); end++) {
                 if (all.get(t).contains(row.subList(at, end))) {
