@@ -1666,23 +1666,31 @@ public final class ScribeBlocks {
         }
 
         /** Settles TERMS; false when one of them has too many SPELLINGS to try all. */
-        boolean settle(int[] said, int many) {
-            for (int i = 0; i < many; i++) {
-                if (spellingsOf(said[i]) > MOST_TO_FILL) {
+        boolean settle(int[] said, int size) {
+            for (int i = 0; i < size; i++) {
+                int many = spellingsOf(said[i]);
+                if (many > MOST_TO_FILL) {
                     return false;
                 }
                 if (isNew(said[i], SETTLED)) {
-                    trySpellings(said[i]);
+                    emptySlots(said[i]);
+                    // without a SIGN of its KIND a TERM has none, and BODIES beyond all trying
+                    if (many > 0) {
+                        trySpellings(said[i]);
+                    }
                 }
             }
             return true;
         }
 
-        private void trySpellings(int t) {
+        private void emptySlots(int t) {
             firstSlot = t * SLOTS;
             for (int i = 0; i < SLOTS; i++) {
                 slotCosts[firstSlot + i] = NO_COST;
             }
+        }
+
+        private void trySpellings(int t) {
             costs[0] = 0;
             rows[0] = 0;
             trialBlocks[0] = 0;

@@ -25,6 +25,7 @@ final class Edges {
     private final Map<String, BitSet> quoted = new TreeMap<>();
 
     Edges() throws IOException {
+        h.watch(120);
         if (!Files.exists(DOC)) {
             System.out.println("no " + DOC + ": quotes are not compared with it");
             return;

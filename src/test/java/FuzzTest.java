@@ -8,6 +8,7 @@ public final class FuzzTest {
 
     public static void main(String[] args) {
         int seeds = args.length > 0 ? Integer.parseInt(args[0]) : 300;
+        H.watch(60 + seeds);
         for (int seed = 0; seed < seeds; seed++) {
             H.part("seed " + seed);
             int once;
@@ -65,11 +66,33 @@ public final class FuzzTest {
         Harness.tape(x, text.toString());
     }
 
+    /** As many SIGNS as there may be for long ROWS of one SOUND, with and without SIGNS of the KINDS. */
+    private static void startLarge(ScribeBlocks x, Random random) {
+        StringBuilder list = new StringBuilder("sign i 1 1means c;sign k 1 1kind k;echo 3;");
+        int most = 1 + random.nextInt(3);
+        for (int s = 0; s < 38 && list.length() < 770; s++) {
+            list.append("sign z").append((char) ('a' + s / 20)).append((char) ('a' + s % 20)).append("9 9sounds ")
+                    .append("aaa", 0, 1 + random.nextInt(most)).append(';');
+        }
+        Harness.list(x, list.toString());
+        for (int t = 0; t < 30; t++) {
+            String kind = random.nextInt(2) == 0 ? "" : random.nextInt(2) == 0 ? " k" : " none";
+            Harness.term(x, (char) ('a' + t % 26) + (t < 26 ? " " : "b ") + "aaaaaaaa".substring(random.nextInt(8)) + kind);
+            if (random.nextInt(3) == 0) {
+                x.say(t);
+            }
+        }
+    }
+
     private static int run(int seed) {
         Random random = new Random(seed);
         ScribeBlocks x = new ScribeBlocks();
-        Harness.list(x, "sign a 5 5 sounds a; sign b 6 6 sounds ab; sign i 7 7 means a; sign ab 3 9 sounds b;"
-                + "sign k 4 4 kind k; echo 2;");
+        if (seed % 3 == 0) {
+            startLarge(x, random);
+        } else {
+            Harness.list(x, "sign a 5 5 sounds a; sign b 6 6 sounds ab; sign i 7 7 means a; sign ab 3 9 sounds b;"
+                    + "sign k 4 4 kind k; echo 2;");
+        }
         int sum = 0;
         for (int n = 0; n < 512; n++) {
             if (random.nextInt(3) == 0) {

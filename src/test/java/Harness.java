@@ -4,10 +4,25 @@ import java.nio.charset.StandardCharsets;
 final class Harness {
     private int wrong;
     private int asked;
-    private String part = "";
+    private volatile String part = "";
 
     void part(String name) {
         part = name;
+    }
+
+    /** A call that doesn't end would keep the run waiting for ever: the test fails instead. */
+    void watch(int seconds) {
+        Thread watcher = new Thread(() -> {
+            try {
+                Thread.sleep(1000L * seconds);
+            } catch (InterruptedException stopped) {
+                return;
+            }
+            System.out.println(part + ": a call has not ended after " + seconds + " seconds");
+            Runtime.getRuntime().halt(1);
+        });
+        watcher.setDaemon(true);
+        watcher.start();
     }
 
     void due(String call, int got, int want) {

@@ -3,7 +3,9 @@ public final class LimitsTest {
     private static final Harness H = new Harness();
 
     public static void main(String[] args) {
+        H.watch(120);
         manyAlike();
+        bodiesWithoutKind();
         rowsOfTwentyFour();
         lastIsAnIdea();
         groupsOfTwentyFour();
@@ -57,6 +59,39 @@ public final class LimitsTest {
         Harness.write(x, "zn");
         H.due("waysOn", x.waysOn(0, 0), 0);
         H.due("ways", x.ways(), 1);
+    }
+
+    /** 40 SIGNS of a for eight SOUNDS are BODIES without number, but no SIGN is of the KIND. */
+    private static void bodiesWithoutKind() {
+        H.part("many BODIES, no SIGN of the KIND");
+        StringBuilder list = new StringBuilder();
+        for (int s = 0; s < 39; s++) {
+            list.append("sign ").append(name(s)).append("1 1sounds a;");
+        }
+        ScribeBlocks x = fortyTerms(list + "sign kk1 1kind k;", "aaaaaaaa l");
+        Harness.term(x, "behind a");
+        for (int t = 0; t < 12; t++) {
+            H.due("spellings", x.spellings(t), 0);
+            H.due("best", x.best(t), -1);
+            H.due("bestSign", x.bestSign(t, 0), -1);
+            H.due("say", x.say(t), t + 1);
+            H.due("fill", x.fill(t + 1), -1);
+            H.due("fills", x.fills(), 0);
+        }
+        Harness.write(x, "a ".repeat(8) + "kk");
+        H.due("ways", x.ways(), 0);
+        H.due("spells", x.spells(39), 0);
+        Harness.blocks(x, "a" + "-a".repeat(8));
+        H.due("judge", x.judge(), 2000);
+        // by another LIST it has SPELLINGS: what was found is forgotten
+        Harness.list(x, "sign a 1 1 sounds a; sign l 1 1 kind l; sign m 1 1 kind l;");
+        H.due("spellings", x.spellings(0), 2);
+        H.due("fill", x.fill(36), 108);
+        H.due("filled", x.filled(11, 18), 1);
+        H.due("fills", x.fills(), 1);
+        Harness.list(x, list.toString());
+        H.due("fills", x.fills(), 0);
+        H.due("fill", x.fill(36), -1);
     }
 
     private static void rowsOfTwentyFour() {

@@ -416,6 +416,9 @@ final class Model {
 
     TreeSet<List<Integer>> spellings(Term t, List<Sign> by) {
         TreeSet<List<Integer>> bodies = new TreeSet<>(ROWS);
+        if (t.kind != null && by.stream().noneMatch(s -> s.kind.equals("kind") && s.value.equals(t.kind))) {
+            return bodies;
+        }
         for (int i = 0; i < by.size(); i++) {
             if (by.get(i).kind.equals("means") && by.get(i).value.equals(t.name)) {
                 bodies.add(List.of(i));

@@ -9,6 +9,7 @@ import java.util.TreeSet;
 public final class ModelTest {
     private static final Harness H = new Harness();
     private final Random random;
+    private final boolean large;
     private final ScribeBlocks x = new ScribeBlocks();
     private final Model m = new Model();
     private List<Model.Part> blocks = new ArrayList<>();
@@ -17,6 +18,7 @@ public final class ModelTest {
 
     private ModelTest(int seed) {
         random = new Random(seed);
+        large = seed % 4 == 3;
     }
 
     public static void main(String[] args) {
@@ -70,24 +72,8 @@ public final class ModelTest {
         return draw(3) == 0 ? " " : draw(3) == 0 ? "\n" : "";
     }
 
-    private String drawList() {
+    private String drawRules() {
         StringBuilder text = new StringBuilder();
-        int signs = 3 + draw(9);
-        int letters = 1 + draw(3);
-        int greatest = draw(3) == 0 ? 60 : 5 + draw(20);
-        for (int s = 0; s < signs; s++) {
-            text.append("sign ").append((char) ('a' + s)).append(' ').append(1 + draw(greatest)).append(' ')
-                    .append(1 + draw(greatest));
-            int value = draw(10);
-            if (value < 6) {
-                text.append(" sounds ").append(drawSounds(3, letters));
-            } else if (value < 8) {
-                text.append(" means ").append("term".charAt(draw(4)));
-            } else if (value < 9) {
-                text.append(" kind ").append("kl".charAt(draw(2)));
-            }
-            text.append(blanks()).append(';').append(blanks());
-        }
         if (draw(2) == 0) {
             text.append("gap ").append(draw(10)).append(";");
         }
@@ -101,6 +87,37 @@ public final class ModelTest {
             text.append("echo ").append(draw(4)).append(";");
         }
         return text.toString();
+    }
+
+    private String drawSign(String name, int greatest, int letters) {
+        StringBuilder text = new StringBuilder("sign ");
+        text.append(name).append(' ').append(1 + draw(greatest)).append(' ').append(1 + draw(greatest));
+        int value = draw(10);
+        if (value < 6) {
+            text.append(" sounds ").append(drawSounds(3, letters));
+        } else if (value < 8) {
+            text.append(" means ").append("term".charAt(draw(4)));
+        } else if (value < 9) {
+            text.append(" kind ").append("kl".charAt(draw(2)));
+        }
+        return text.append(blanks()).append(';').append(blanks()).toString();
+    }
+
+    private String drawList() {
+        int signs = large ? 15 + draw(26) : 3 + draw(9);
+        int letters = large ? 3 + draw(5) : 1 + draw(3);
+        int greatest = draw(3) == 0 ? 60 : 5 + draw(20);
+        StringBuilder text = new StringBuilder();
+        String rules = drawRules();
+        for (int s = 0; s < signs; s++) {
+            String name = s < 26 ? "" + (char) ('a' + s) : "z" + (char) ('a' + s - 26);
+            String sign = drawSign(name, greatest, letters);
+            // a text that is spoilt may be longer by two bits of thirteen bytes
+            if (text.length() + sign.length() + rules.length() <= 770) {
+                text.append(sign);
+            }
+        }
+        return draw(2) == 0 ? text + rules : rules + text;
     }
 
     private String spoil(String text) {
@@ -259,11 +276,11 @@ public final class ModelTest {
     // ---- terms
 
     private void drawTerms() {
-        int letters = 1 + draw(3);
-        String names = "termxyzuv";
-        int many = 1 + draw(names.length());
+        int letters = large ? 3 + draw(5) : 1 + draw(3);
+        String names = "termxyzuvabcdfghijklnopqsw";
+        int many = 1 + draw(large ? names.length() : 9);
         for (int t = 0; t < many; t++) {
-            String kind = draw(3) == 0 ? "kl".substring(draw(2)).substring(0, 1) : null;
+            String kind = draw(3) == 0 ? "klo".substring(draw(3)).substring(0, 1) : null;
             Model.Term term = new Model.Term(names.substring(t, t + 1), drawSounds(draw(3) == 0 ? 8 : 4, letters), kind);
             m.terms.add(term);
             H.due("term", Harness.term(x, term.name() + " " + term.row() + (kind == null ? "" : " " + kind)), t);

@@ -394,6 +394,13 @@ final class PassageEdges {
         // another LIST, other SPELLINGS
         Harness.list(x, "sign a 1 1 sounds a;");
         e.due("by another LIST", x.fill(2), 8);
+        // 20 SIGNS for each of eight SOUNDS, but none of the KIND: no SPELLING at all, so it isn't FULL
+        x = said(alike('a', 20, "a") + "sign z 1 1 kind l;", "p aaaaaaaa k,q a", 1, 0);
+        e.due("no SPELLING", x.spellings(0), 0);
+        e.due("NONE", x.fill(2), -1);
+        e.due("no n", x.fills(), 0);
+        Harness.list(x, "sign a 1 1 sounds a; sign z 1 1 kind k;");
+        e.due("by another LIST", x.fill(4), 10);
     }
 
     private void filled() {
